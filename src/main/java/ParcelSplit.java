@@ -166,8 +166,8 @@ public final class ParcelSplit {
         if (!book.hasSet(goods)) {
             return NONE;
         }
-        int carrier = prices.cheapestBy(goods, prices.zonesAt(plan.place(), plan.day()));
-        return carrier < 0 ? NOT_TO_BE_HAD : carrier;
+        int offer = prices.leastOffer(goods, prices.zonesAt(plan.place(), plan.day()));
+        return offer < 0 ? NOT_TO_BE_HAD : Prices.carrierOfOffer(offer);
     }
 
     public int least() {
@@ -776,7 +776,7 @@ public final class ParcelSplit {
     /** Zones, rates and charges by the book; sums of all sets are kept, as splits need them all. */
     private static final class Prices {
         private static final int NO_PRICE = -1;
-        private static final int NO_CARRIER = -1;
+        private static final int NO_OFFER = -1;
         private static final int NOT_SERVED = -2;
         private static final int TOO_HEAVY = -3;
         private static final int TOO_BIG = -4;
@@ -879,17 +879,25 @@ public final class ParcelSplit {
             return together + together * book.carrierNumber(carrier, FUEL) / 100;
         }
 
-        int cheapestBy(int set, int zones) {
-            int best = NO_CARRIER;
-            int bestCharge = 0;
+        /** A charge and its carrier in one number, so that of like charges the first carrier's is the least. */
+        int leastOffer(int set, int zones) {
+            int least = NO_OFFER;
             for (int carrier = 0; carrier < book.carrierCount(); carrier++) {
                 int charge = chargeOf(set, carrier, zoneIn(zones, carrier), kilosOf(set));
-                if (charge >= 0 && (best < 0 || charge < bestCharge)) {
-                    best = carrier;
-                    bestCharge = charge;
+                int offer = charge * CARRIERS + carrier;
+                if (charge >= 0 && (least < 0 || offer < least)) {
+                    least = offer;
                 }
             }
-            return best;
+            return least;
+        }
+
+        static int chargeOfOffer(int offer) {
+            return offer / CARRIERS;
+        }
+
+        static int carrierOfOffer(int offer) {
+            return offer % CARRIERS;
         }
 
         int boundBy(int carrier, int zone, int weight) {
@@ -926,8 +934,7 @@ public final class ParcelSplit {
         private final int[] leastByZones = new int[ZONE_KEYS];
         private final long[] rowByZones = new long[ZONE_KEYS];
         /** By sets, while one solution is made. */
-        private final int[] parcelCharge = new int[SETS];
-        private final int[] parcelCarrier = new int[SETS];
+        private final int[] offers = new int[SETS];
         private final int[] least = new int[SETS];
         private final long[] row = new long[SETS];
         /** By sets: a 1 in the digit of each of its goods. */
@@ -983,7 +990,7 @@ public final class ParcelSplit {
             least[0] = 0;
             row[0] = 0;
             for (int set = 1; set <= full; set++) {
-                priceParcel(set, zones);
+                store(offers, set, prices.leastOffer(set, zones));
             }
             for (int set = 2; set < full; set += 2) {
                 splitSet(set);
@@ -993,16 +1000,6 @@ public final class ParcelSplit {
                 leastByZones[zones] = at(least, full);
                 rowByZones[zones] = rowOf(full);
             }
-        }
-
-        private void priceParcel(int set, int zones) {
-            int carrier = prices.cheapestBy(set, zones);
-            int charge = NO_SPLIT;
-            if (carrier >= 0) {
-                charge = prices.chargeOf(set, carrier, Prices.zoneIn(zones, carrier), prices.kilosOf(set));
-            }
-            store(parcelCarrier, set, carrier);
-            store(parcelCharge, set, charge);
         }
 
         /** The first parcel has the set's first good and, in turn, each choice of the others. */
@@ -1022,16 +1019,16 @@ public final class ParcelSplit {
 
         private void tryParcel(int set, int parcel) {
             int rest = set ^ parcel;
-            int charge = at(parcelCharge, parcel);
+            int offer = at(offers, parcel);
             int restCharge = at(least, rest);
-            if (charge < 0 || restCharge < 0 || set < 1 || set >= SETS) {
+            if (offer < 0 || restCharge < 0 || set < 1 || set >= SETS) {
                 return;
             }
-            int sum = charge + restCharge;
+            int sum = Prices.chargeOfOffer(offer) + restCharge;
             if (least[set] >= 0 && sum > least[set]) {
                 return;
             }
-            long tried = at(parcelCarrier, parcel) * onesOf(parcel) + rowOf(rest) + CARRIERS * onesOf(rest);
+            long tried = Prices.carrierOfOffer(offer) * onesOf(parcel) + rowOf(rest) + CARRIERS * onesOf(rest);
             if (least[set] < 0 || sum < least[set] || tried < row[set]) {
                 least[set] = sum;
                 row[set] = tried;

@@ -112,6 +112,13 @@ public final class AnswersTest {
         split.order(2, 0);
         due("rate(0, 5) in zone 2", split.rate(0, 5), 30);
         due("rate(0, 6) in zone 2", split.rate(0, 6), 40);
+        ParcelSplit free = Check.made("carrier 9 9 9 0 9 0;break 2 0 4 4;break 4 5 0 4;break 6 0 4 0;zones 0 0 1 2 3;order 0 0;");
+        int[][] withFree = {{0, 0, 0}, {1, 0, 4}, {2, 0, 0}};
+        for (int[] w : withFree) {
+            free.order(w[0], 0);
+            due("rate with free lines in zone " + w[0], free.rate(0, 2), w[1]);
+            due("rate above the first free line in zone " + w[0], free.rate(0, 5), w[2]);
+        }
         split.order(3, 0);
         due("rate(0, 1) where it does not serve", split.rate(0, 1), -2);
         due("rate(0, 0) where it does not serve", split.rate(0, 0), -1);
@@ -242,6 +249,13 @@ public final class AnswersTest {
             due("each good alone", alone.split(g, 0), g);
         }
         due("eight parcels", alone.least(), 8);
+        ParcelSplit byThird = Check.made("carrier 1 9 9 0 9 0;break 9 9 9 9;" + zones + "carrier 1 9 9 0 9 0;break 9 9 9 9;" + zones
+            + "carrier 2 9 9 0 9 0;break 9 4 4 4;" + zones + "good 1 1 1;".repeat(8) + "order 0 0;");
+        due("four parcels", byThird.least(), 16);
+        for (int g = 0; g < 8; g++) {
+            due("goods two by two", byThird.split(g, 0), g / 2);
+            due("all by the third", byThird.split(g, 1), 2);
+        }
     }
 
     private static void noSplit() {
@@ -281,6 +295,13 @@ public final class AnswersTest {
         due("16 by 7, up", up.bound(), 3);
         up.order(2, 0);
         due("free", up.bound(), 0);
+        ParcelSplit free = Check.made("carrier 99 9 9 0 9 0;break 7 0 2 3;break 9 1 0 2;zones 0 0 1 2 3;"
+            + "carrier 99 9 9 0 9 0;break 7 5 5 2;zones 0 0 1 2 3;good 8 1 1;order 0 0;");
+        due("the first line is free", free.bound(), 0);
+        free.order(1, 0);
+        due("the second line is free", free.bound(), 0);
+        free.order(2, 0);
+        due("8 by 2 for 9", free.bound(), 2);
     }
 
     private static void gap() {

@@ -51,6 +51,8 @@ public final class TapeTest {
         due("goods at first", split.now(1), 0);
         due("place at first", split.now(2), 0);
         due("day at first", split.now(3), 0);
+        due("packed goods at first", split.now(4), 0);
+        due("parcels at first", split.now(5), 0);
         due("undoable at first", split.now(6), 0);
         due("tape at first", split.now(7), 0);
         due("fault at first", split.fault(), 0);
@@ -165,6 +167,13 @@ public final class TapeTest {
         failsAtMark("#Carrier 9 9 9 0 9 0;", 1);
         failsAtMark("#carriers 9 9 9 0 9 0;", 1);
         failsAtMark("#carrie", 1);
+        for (String word : new String[] {"xarrier", "carriex", "caxrier"}) {
+            failsAtMark("#" + word + " 9 9 9 0 9 0;" + BREAK + ZONES + ORDER, 1);
+        }
+        failsAtMark(CARRIER + "#xreak 5 1 2 3;" + ZONES + ORDER, 1);
+        failsAtMark(CARRIER + BREAK + "#xones 0 0 0 0 0;" + ORDER, 1);
+        failsAtMark(ONE + "#xood 1 1 1;" + ORDER, 1);
+        failsAtMark(ONE + "#xrder 1 1;", 1);
         failsAtMark("carrier #9a 9 9 0 9 0;", 1);
         failsAtMark("carrier #0009 9 9 0 9 0;", 1);
         failsAtMark("carrier #-9 9 9 0 9 0;", 1);

@@ -585,14 +585,6 @@ public final class ParcelSplit {
             99, 3, 3, 3, 3, 0,
             99, 999, 999, 0, 0, 0,
             3, 99, 0, 0, 0, 0};
-        /** By kind of the line ahead (START last): which kinds may follow it, as bits. */
-        private static final int[] FOLLOWERS = {
-            1 << BREAK_LINE,
-            1 << BREAK_LINE | 1 << ZONES_LINE,
-            1 << ZONES_LINE | 1 << CARRIER_LINE | 1 << GOOD_LINE | 1 << ORDER_LINE,
-            1 << GOOD_LINE | 1 << ORDER_LINE,
-            0,
-            1 << CARRIER_LINE};
 
         private final Tape tape;
         private final Book draft;
@@ -645,7 +637,7 @@ public final class ParcelSplit {
         private int readLine(int ahead) {
             advance();
             int line = kind == WORD ? lineOfWord() : NO_LINE;
-            if (line == NO_LINE || (at(FOLLOWERS, ahead) >> line & 1) == 0) {
+            if (line == NO_LINE || !mayFollow(line, ahead)) {
                 faultKind = CANNOT_COME;
                 return NO_LINE;
             }
@@ -666,6 +658,23 @@ public final class ParcelSplit {
             }
             draft.addLine(line, numbers);
             return line;
+        }
+
+        private static boolean mayFollow(int line, int ahead) {
+            switch (ahead) {
+                case START:
+                    return line == CARRIER_LINE;
+                case CARRIER_LINE:
+                    return line == BREAK_LINE;
+                case BREAK_LINE:
+                    return line == BREAK_LINE || line == ZONES_LINE;
+                case ZONES_LINE:
+                    return line != BREAK_LINE;
+                case GOOD_LINE:
+                    return line == GOOD_LINE || line == ORDER_LINE;
+                default:
+                    return false;
+            }
         }
 
         private boolean readNumber(int lowest, int highest) {

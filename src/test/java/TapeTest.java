@@ -1,11 +1,12 @@
 /** Promises 1 to 5: a new object, feed, end, text, fault. */
 public final class TapeTest {
     private static final Check CHECK = new Check();
-    private static final String CARRIER = "carrier 9 9 9 0 9 0;";
-    private static final String BREAK = "break 5 1 2 3;";
-    private static final String ZONES = "zones 0 0 1 2 3;";
-    private static final String ONE = CARRIER + BREAK + ZONES;
-    private static final String ORDER = "order 1 2;";
+    private static final Texts TEXTS = new Texts(CHECK);
+    private static final String CARRIER = Texts.CARRIER;
+    private static final String BREAK = Texts.BREAK;
+    private static final String ZONES = Texts.ZONES;
+    private static final String ONE = Texts.ONE;
+    private static final String ORDER = Texts.ORDER;
 
     public static void main(String[] args) {
         newObject();
@@ -14,11 +15,6 @@ public final class TapeTest {
         textTakesTheTape();
         linesInTheirOrder();
         signsAndBlanks();
-        ranges();
-        risingNumbers();
-        oneMoreThanTold();
-        firstFault();
-        sevenHundredBytes();
         faultKeepsAll();
         textBeginsAnew();
         CHECK.close();
@@ -29,20 +25,11 @@ public final class TapeTest {
     }
 
     private static void reads(String text, int lines) {
-        ParcelSplit split = new ParcelSplit();
-        due("text of '" + text + "'", Check.read(split, text), lines);
-        due("fault of '" + text + "'", split.fault(), 0);
+        TEXTS.reads(text, lines);
     }
 
-    private static void fails(String text, int place, int kind) {
-        ParcelSplit split = new ParcelSplit();
-        due("text of '" + text + "'", Check.read(split, text), -1 - place);
-        due("fault of '" + text + "'", split.fault(), kind);
-    }
-
-    /** The fault is at the sign '#', which is taken out of the text. */
     private static void failsAtMark(String text, int kind) {
-        fails(text.replace("#", ""), text.indexOf('#'), kind);
+        TEXTS.failsAtMark(text, kind);
     }
 
     private static void newObject() {
@@ -188,113 +175,6 @@ public final class TapeTest {
             failsAtMark(ONE + ORDER.replace(" ", "  ") + "#" + sign, 1);
         }
         failsAtMark(ONE + "order 1 2 #" + (char) (';' + 128), 1);
-    }
-
-    /** Each number of a line at its lowest and highest, and one below and above them. */
-    private static void range(String ahead, String word, String[] numbers, int which, int lowest, int highest, String behind) {
-        for (int n : new int[] {lowest - 1, lowest, highest, highest + 1}) {
-            if (n < 0) {
-                continue;
-            }
-            StringBuilder text = new StringBuilder(ahead).append(word);
-            for (int i = 0; i < numbers.length; i++) {
-                text.append(i == which ? " #" + n : " " + numbers[i]);
-            }
-            text.append(';').append(behind);
-            if (n >= lowest && n <= highest) {
-                String right = text.toString().replace("#", "");
-                reads(right, (int) right.chars().filter(c -> c == ';').count());
-            } else {
-                failsAtMark(text.toString(), n > 999 ? 1 : 2);
-            }
-        }
-    }
-
-    private static void ranges() {
-        String[] carrier = {"9", "9", "9", "9", "9", "9"};
-        int[] carrierLowest = {1, 1, 1, 0, 1, 0};
-        int[] carrierHighest = {99, 999, 99, 99, 999, 999};
-        for (int i = 0; i < 6; i++) {
-            range("", "carrier", carrier, i, carrierLowest[i], carrierHighest[i], BREAK + ZONES + ORDER);
-        }
-        String[] line = {"9", "0", "0", "0"};
-        for (int i = 0; i < 4; i++) {
-            range(CARRIER, "break", line, i, i == 0 ? 1 : 0, i == 0 ? 99 : 999, ZONES + ORDER);
-        }
-        String[] zones = {"9", "0", "0", "0", "0"};
-        for (int i = 0; i < 5; i++) {
-            range(ONE, "zones", zones, i, i == 0 ? 1 : 0, i == 0 ? 99 : 3, ORDER);
-        }
-        String[] good = {"1", "1", "1"};
-        for (int i = 0; i < 3; i++) {
-            range(ONE, "good", good, i, 1, i == 0 ? 99 : 999, ORDER);
-        }
-        range(ONE, "order", new String[] {"0", "0"}, 0, 0, 3, "");
-        range(ONE, "order", new String[] {"0", "0"}, 1, 0, 99, "");
-    }
-
-    private static void risingNumbers() {
-        failsAtMark(CARRIER + BREAK + "break #5 1 1 1;", 2);
-        failsAtMark(CARRIER + BREAK + "break #4 1 1 1;", 2);
-        reads(CARRIER + BREAK + "break 6 1 1 1;" + ZONES + ORDER, 5);
-        failsAtMark(CARRIER + "break 99 1 1 1;break #99 1 1 1;", 2);
-        failsAtMark(CARRIER + BREAK + "zones #1 0 0 0 0;", 2);
-        failsAtMark(ONE + "zones #0 0 0 0 0;", 2);
-        reads(ONE + "zones 1 0 0 0 0;zones 2 0 0 0 0;" + ORDER, 6);
-        failsAtMark(ONE + "zones 7 0 0 0 0;zones #7 0 0 0 0;", 2);
-        failsAtMark(ONE + "zones 7 0 0 0 0;zones #6 0 0 0 0;", 2);
-        reads(ONE.replace("break 5", "break 50") + ONE + ORDER, 7);
-        failsAtMark(ONE + "zones 5 0 0 0 0;" + CARRIER + BREAK + "zones #6 0 0 0 0;", 2);
-    }
-
-    private static void oneMoreThanTold() {
-        String breaks = CARRIER + "break 1 0 0 0;break 2 0 0 0;break 3 0 0 0;break 4 0 0 0;break 5 0 0 0;";
-        reads(breaks + ZONES + ORDER, 8);
-        failsAtMark(breaks + "#break", 3);
-        String zones = ONE + "zones 1 0 0 0 0;zones 2 0 0 0 0;";
-        reads(zones + ORDER, 6);
-        failsAtMark(zones + "#zones 1", 3);
-        reads(ONE + ONE + ONE + ORDER, 10);
-        failsAtMark(ONE + ONE + ONE + "#carrier x", 3);
-        String goods = ONE + "good 1 1 1;".repeat(8);
-        reads(goods + ORDER, 12);
-        failsAtMark(goods + "#good 1000", 3);
-        failsAtMark(ONE + ONE + CARRIER + BREAK + "#carrier", 1);
-        failsAtMark(zones + "good 1 1 1;#zones", 1);
-        failsAtMark(breaks + ZONES + "#break", 1);
-        reads(breaks + ZONES + breaks + ZONES + ORDER, 15);
-    }
-
-    private static void firstFault() {
-        failsAtMark("carrier #100 1000;", 2);
-        failsAtMark("carrier 1 #1000 0;", 1);
-        failsAtMark(ONE + "order #4 100", 2);
-    }
-
-    private static String filled(String text, int bytes) {
-        return text + " ".repeat(bytes - text.length());
-    }
-
-    private static void sevenHundredBytes() {
-        reads(filled(ONE, 700 - ORDER.length()) + ORDER, 4);
-        reads(filled(ONE + ORDER, 700), 4);
-        fails(filled(ONE + ORDER, 701), 700, 1);
-        fails(filled(ONE + ORDER, 740), 700, 1);
-        fails(filled(ONE, 701 - ORDER.length()) + ORDER, 700, 1);
-        fails(filled(ONE + ORDER, 699) + ";", 699, 1);
-        fails(filled(ONE + ORDER, 700) + ";", 700, 1);
-        fails(filled(ONE, 690), 690, 1);
-        fails(filled(ONE, 740), 700, 1);
-        fails(filled(ONE + "order 1", 699) + "99;", 700, 1);
-        fails(filled(ONE + "order 1", 699) + "100;", 699, 2);
-        fails(filled(ONE + "order 1", 699) + "9999;", 699, 1);
-        fails(filled(ONE + "order 1", 699) + "9x;", 699, 1);
-        fails(filled(ONE + "order 1", 700) + "100;", 700, 1);
-        fails(filled(ONE, 698) + "order 1 2;", 700, 1);
-        fails(filled(ONE, 698) + "orders 1 2;", 698, 1);
-        fails(filled(ONE + "good 1 1 1;".repeat(8), 697) + "good 1", 697, 3);
-        fails(filled(ONE, 720) + (char) 0, 700, 1);
-        fails(filled(ONE + "; ", 740), ONE.length(), 1);
     }
 
     private static void faultKeepsAll() {

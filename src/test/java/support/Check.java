@@ -1,10 +1,14 @@
 import java.util.NoSuchElementException;
+import java.util.TreeSet;
 
 /** What the tests share: counting wrong answers, feeding texts, calls that throw. */
 final class Check {
     /** Stands for a NoSuchElementException among answers; no call answers it. */
     static final int THROWS = 1_000_000;
 
+    private final TreeSet<Integer> named = new TreeSet<>();
+    private Document document;
+    private String sentence = "";
     private int wrong;
     private int right;
 
@@ -14,11 +18,30 @@ final class Check {
             return;
         }
         wrong++;
-        System.out.println(what + " answered " + got + ", due is " + want);
+        System.out.println(sentence + what + " answered " + got + ", due is " + want);
     }
 
     void due(String what, boolean got, boolean want) {
         due(what, got ? 1 : 0, want ? 1 : 0);
+    }
+
+    /** What comes next is about a sentence of the document, by its promise and its own words. */
+    void about(int promise, String words) {
+        if (document == null) {
+            document = new Document();
+        }
+        named.add(promise);
+        sentence = "";
+        due("the words '" + words + "' of promise " + promise + " stand in the document", document.says(promise, words), true);
+        sentence = "promise " + promise + " (" + words + "): ";
+    }
+
+    /** Each promise has had a sentence looked at. */
+    void everyPromiseWasNamed() {
+        sentence = "";
+        for (int p = 1; p <= Document.PROMISES; p++) {
+            due("promise " + p + " was named", named.contains(p), true);
+        }
     }
 
     /** Ends the test, with exit code 1 if an answer was wrong or none was looked at. */
@@ -45,6 +68,11 @@ final class Check {
             numbers[i / 4] = numbers[i / 4] << 8 | sign;
         }
         return numbers;
+    }
+
+    static int feed(ParcelSplit split, String twenty) {
+        int[] n = numbers(twenty, 0);
+        return split.feed(n[0], n[1], n[2], n[3], n[4]);
     }
 
     /** Feeds a text of any length up to 740 behind an empty tape. */

@@ -28,6 +28,7 @@ final class ActBoundaries {
         order();
         undoOfNone();
         tenAtMost();
+        allIsKeptOfTen();
         eachKindAsTheEleventh();
         actsBehindUndo();
         actsThatLeaveAllAsItWas();
@@ -57,10 +58,16 @@ final class ActBoundaries {
         }
         due("what was refused can't be undone", split.now(6), 6);
         ParcelSplit full = Check.made(ALL);
+        for (int p = 0; p < 8; p++) {
+            full.by(p, 2);
+        }
         for (int g = 0; g < 8; g++) {
             due("all into one", full.put(g, 3), -1);
         }
         due("one parcel has all", full.parcel(3, 0), 255);
+        for (int p = 0; p < 8; p++) {
+            due("the last of all changes no carrier", full.parcel(p, 1), 2);
+        }
         due("no other has one", full.now(5), 8);
         for (int g = 7; g >= 0; g--) {
             due("all into none", full.put(g, -1), 3);
@@ -389,6 +396,47 @@ final class ActBoundaries {
             due("undo of the second put", split.undo(), 0);
             due("the first put is not kept", split.undo(), -1);
             due("so its good is there", split.parcel(0, 0), 1);
+        }
+    }
+
+    /** Acts of all kinds in turn, so that no two states are like. */
+    private static void actInTurn(ParcelSplit split, int turn) {
+        int[][] puts = {{0, 5}, {7, 6}, {3, 5}, {0, 1}, {1, 7}, {6, 2}};
+        switch (turn % 4) {
+            case 0:
+                split.put(puts[turn / 4][0], puts[turn / 4][1]);
+                break;
+            case 1:
+                split.by(7 - turn / 4, 1 + turn / 4 % 2);
+                break;
+            case 2:
+                split.claim(split.parcel(5, 0) > 0 ? 5 : 1, 10 + turn);
+                break;
+            default:
+                split.order(turn / 4 % 4, 40 + turn);
+                break;
+        }
+    }
+
+    /** A twin shows each state, as an object has 512 calls only. */
+    private void allIsKeptOfTen() {
+        check.about(25, "10 at most are kept");
+        for (int acts : new int[] {10, 11, 14}) {
+            String[] states = new String[acts + 1];
+            ParcelSplit twin = Check.made(ALL);
+            for (int i = 0; i < acts; i++) {
+                states[i] = shown(twin);
+                actInTurn(twin, i);
+            }
+            ParcelSplit split = Check.made(ALL);
+            for (int i = 0; i < acts; i++) {
+                actInTurn(split, i);
+            }
+            for (int i = 1; i <= 10; i++) {
+                due("undo of " + acts, split.undo(), 10 - i);
+                check.due("all as ahead of the last " + i + " of " + acts, shown(split).equals(states[acts - i]), true);
+            }
+            due("undo of no more of " + acts, split.undo(), -1);
         }
     }
 

@@ -22,6 +22,7 @@ final class AnswerBoundaries {
         zone();
         rate();
         rateByBreaks();
+        breaksOfOthers();
         noSuchSets();
         billed();
         whyInTurn();
@@ -31,13 +32,17 @@ final class AnswerBoundaries {
         cheapest();
         least();
         leastOfLikeOnes();
+        chargeAheadOfRow();
+        splitInAllZones();
         split();
         bound();
+        boundWithFreeOnes();
         gap();
         parcel();
         parcelByClaim();
         total();
         would();
+        dayOfANewEdition();
         moreCalls();
     }
 
@@ -197,6 +202,31 @@ final class AnswerBoundaries {
             for (int i = 0; i < billed.length; i++) {
                 due("rate(0, " + billed[i] + ") at " + place, many.rate(0, billed[i]), rates[place][i]);
             }
+        }
+    }
+
+    /** A carrier with as many lines as told has none of the next one's, nor of an earlier text's. */
+    private void breaksOfOthers() {
+        check.about(9, "of its 'break' LINES");
+        String five = "break 1 9 9 9;break 2 9 9 9;break 3 9 9 9;break 4 9 9 9;break 5 9 9 9;";
+        ParcelSplit split = Check.made(carrier("99 99 9 0 9 0", five) + carrier("99 99 9 0 9 0", "break 99 1 1 1;") + "order 0 0;");
+        due("rate(0, 5)", split.rate(0, 5), 9);
+        due("rate(0, 6)", split.rate(0, 6), -2);
+        due("rate(1, 5)", split.rate(1, 5), 1);
+        ParcelSplit behind = Check.made(carrier("99 99 9 0 9 0", five.replace("break 5 9 9 9", "break 99 1 1 1"))
+            + carrier("99 99 9 0 9 0", "break 5 9 9 9;") + "order 0 0;");
+        due("rate(0, 99) by the fifth line", behind.rate(0, 99), 1);
+        due("rate(1, 5) behind the other's fifth line", behind.rate(1, 5), 9);
+        due("rate(1, 6) behind the other's fifth line", behind.rate(1, 6), -2);
+        String cheaper = "break 10 8 8 8;break 20 7 7 7;break 30 6 6 6;break 40 5 5 5;break 50 4 4 4;";
+        Check.read(split, carrier("99 99 9 0 9 0", cheaper) + "order 0 0;");
+        due("rate(0, 1) of five lines", split.rate(0, 1), 4);
+        for (int lines = 4; lines >= 1; lines--) {
+            String fewer = cheaper.substring(0, 15 * lines);
+            due("a text with " + lines + " lines", Check.read(split, carrier("99 99 9 0 9 0", fewer) + "order 0 0;"), lines + 3);
+            due("rate(0, 1) of " + lines, split.rate(0, 1), 9 - lines);
+            due("rate up to the last of " + lines, split.rate(0, 10 * lines), 9 - lines);
+            due("rate above the last of " + lines, split.rate(0, 10 * lines + 1), -2);
         }
     }
 
@@ -397,6 +427,52 @@ final class AnswerBoundaries {
         row("one good", Check.made(FREE + GOOD + "order 0 0;"), 0);
     }
 
+    private void chargeAheadOfRow() {
+        check.about(14, "LEAST: the least CHARGE of all PARCELS together; the LEAST SPLIT: of all of that the one with the least row");
+        ParcelSplit free = Check.made(carrier("9 9 9 0 9 0", "break 1 0 1 2;break 9 1 3 5;") + GOOD.repeat(2) + "order 0 0;");
+        int[] least = {0, 2, 4};
+        for (int place = 0; place < 3; place++) {
+            free.order(place, 0);
+            due("each alone is less, at " + place, free.least(), least[place]);
+            row("each alone, at " + place, free, 0, 3);
+        }
+        ParcelSplit third = Check.made(carrier("9 9 9 0 9 0", "break 9 2 2 2;").repeat(2) + carrier("9 9 9 0 9 0", "break 9 1 2 1;")
+            + GOOD.repeat(8) + "order 0 0;");
+        due("all by the third", third.least(), 1);
+        row("all by the third", third, 2, 2, 2, 2, 2, 2, 2, 2);
+        third.order(1, 0);
+        due("all by any", third.least(), 2);
+        row("all by the first", third, 0, 0, 0, 0, 0, 0, 0, 0);
+    }
+
+    /** Each of the 64 ways in which three carriers have zones; the prices of all are different. */
+    private void splitInAllZones() {
+        check.about(14, "the PARCEL (what 0), the CARRIER (1) of a GOOD. -2: there is no SPLIT.");
+        int[][] prices = {{5, 9, 1}, {2, 7, 8}, {6, 3, 4}};
+        for (int ways = 0; ways < 64; ways++) {
+            StringBuilder text = new StringBuilder();
+            int cheapest = -2;
+            int charge = -2;
+            for (int c = 0; c < 3; c++) {
+                int zone = ways >> 2 * c & 3;
+                text.append("carrier 1 9 9 0 9 0;break 9 ").append(prices[c][0]).append(' ').append(prices[c][1]).append(' ')
+                    .append(prices[c][2]).append(";zones 0 ").append((zone + 1) % 4).append(" 3 0 ").append(zone).append(';');
+                if (zone < 3 && (charge < 0 || prices[c][zone] < charge)) {
+                    cheapest = c;
+                    charge = prices[c][zone];
+                }
+            }
+            ParcelSplit split = Check.made(text + GOOD.repeat(2) + "order 3 0;");
+            String what = "zones " + (ways & 3) + " " + (ways >> 2 & 3) + " " + (ways >> 4 & 3);
+            due("least() of " + what, split.least(), charge < 0 ? -2 : 2 * charge);
+            due("split(0, 0) of " + what, split.split(0, 0), charge < 0 ? -2 : 0);
+            due("split(0, 1) of " + what, split.split(0, 1), cheapest);
+            due("split(1, 0) of " + what, split.split(1, 0), charge < 0 ? -2 : 1);
+            due("split(1, 1) of " + what, split.split(1, 1), cheapest);
+            due("take() of " + what, split.take(), charge < 0 ? -2 : 2);
+        }
+    }
+
     private void split() {
         check.about(14, "The LEAST SPLIT: the PARCEL (what 0), the CARRIER (1) of a GOOD.");
         ParcelSplit all = Check.made(ALL);
@@ -460,6 +536,23 @@ final class AnswerBoundaries {
         due("without goods, where none serves", none.bound(), -2);
         ParcelSplit noSplit = Check.made(carrier("9 9 9 0 9 0", "break 9 9 9 9;") + "good 10 1 1;order 0 0;");
         due("though there is no split", noSplit.bound(), 10);
+    }
+
+    private void boundWithFreeOnes() {
+        check.about(15, "the least P by UPTO");
+        String one = carrier("9 9 9 0 9 0", "break 5 0 1 2;break 9 3 0 9;") + carrier("9 9 9 0 9 0", "break 9 4 4 0;")
+            + carrier("9 9 9 0 9 0", "break 9 5 5 5;");
+        ParcelSplit split = Check.made(one + "good 9 1 1;order 0 0;");
+        for (int place = 0; place < 3; place++) {
+            split.order(place, 0);
+            due("one of the lines is free, at " + place, split.bound(), 0);
+        }
+        ParcelSplit lines = Check.made(carrier("9 9 9 0 9 0", "break 1 1 9 9;break 2 9 1 9;break 3 9 9 1;") + "good 6 1 1;order 0 0;");
+        int[] want = {6, 3, 2};
+        for (int place = 0; place < 3; place++) {
+            lines.order(place, 0);
+            due("another line is the least, at " + place, lines.bound(), want[place]);
+        }
     }
 
     private void gap() {
@@ -624,6 +717,45 @@ final class AnswerBoundaries {
         due("without goods, where none serves", none.would(3, 99), 0);
         due("without goods, no such place", none.would(4, 99), -1);
         due("without goods, no such day", none.would(0, 100), -1);
+    }
+
+    /** The first carrier is the cheaper up to day 49, then the second; from day 70 on none serves place 1. */
+    private void dayOfANewEdition() {
+        ParcelSplit split = Check.made("carrier 9 9 9 0 9 0;break 9 2 6 8;zones 0 0 0 0 0;zones 50 2 1 1 1;zones 70 1 3 1 1;"
+            + "carrier 9 9 9 0 9 0;break 9 3 5 7;zones 0 0 1 1 1;zones 50 0 1 2 0;zones 70 0 3 0 0;good 9 1 1;order 1 49;");
+        split.put(0, 0);
+        int[] days = {0, 49, 50, 69, 70, 99};
+        int[][] want = {{2, 0, 2}, {2, 0, 2}, {5, 1, 6}, {5, 1, 6}, {-2, -2, -2}, {-2, -2, -2}};
+        for (int i = 0; i < days.length; i++) {
+            split.order(1, days[i]);
+            int least = want[i][0];
+            check.about(9, "its last 'zones' LINE whose FROM is not above the order's DAY");
+            due("rate(0, 9) on " + days[i], split.rate(0, 9), want[i][2]);
+            check.about(11, "its last 'zones' LINE whose FROM is not above the order's DAY");
+            due("charge(1, 0) on " + days[i], split.charge(1, 0), want[i][2]);
+            check.about(12, "its last 'zones' LINE whose FROM is not above the order's DAY");
+            due("cheapest(1) on " + days[i], split.cheapest(1), want[i][1]);
+            check.about(13, "its last 'zones' LINE whose FROM is not above the order's DAY");
+            due("least() on " + days[i], split.least(), least);
+            check.about(14, "its last 'zones' LINE whose FROM is not above the order's DAY");
+            due("split(0, 0) on " + days[i], split.split(0, 0), least < 0 ? -2 : 0);
+            due("split(0, 1) on " + days[i], split.split(0, 1), want[i][1]);
+            check.about(15, "its last 'zones' LINE whose FROM is not above the order's DAY");
+            due("bound() on " + days[i], split.bound(), least);
+            check.about(16, "its last 'zones' LINE whose FROM is not above the order's DAY");
+            due("gap() on " + days[i], split.gap(), least < 0 ? -1 : 0);
+            check.about(17, "its last 'zones' LINE whose FROM is not above the order's DAY");
+            due("parcel(0, 3) on " + days[i], split.parcel(0, 3), want[i][2]);
+            due("parcel(0, 4) on " + days[i], split.parcel(0, 4), want[i][2]);
+            check.about(18, "its last 'zones' LINE whose FROM is not above the order's DAY");
+            due("total(0) on " + days[i], split.total(0), want[i][2]);
+            check.about(19, "its last 'zones' LINE whose FROM is not above the order's DAY");
+            due("would(1, " + days[i] + ")", split.would(1, days[i]), least);
+            check.about(22, "its last 'zones' LINE whose FROM is not above the order's DAY");
+            due("take() on " + days[i], split.take(), least < 0 ? -2 : 1);
+            due("its carrier on " + days[i], split.parcel(0, 1), least < 0 ? 0 : want[i][1]);
+            split.by(0, 0);
+        }
     }
 
     private void moreCalls() {

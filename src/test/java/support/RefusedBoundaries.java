@@ -12,7 +12,8 @@ final class RefusedBoundaries {
     private static final String TEXT = "carrier 20 99 5 10 60 7;break 5 10 20 30;break 20 15 60 70;zones 0 0 1 2 3;zones 50 1 2 0 3;"
         + "carrier 9 99 9 0 9 0;break 8 12 13 14;zones 0 0 1 2 3;good 4 10 50;good 6 31 61;good 5 60 60;order 0 0;";
     private static final String NEXT = "carrier 9 9 9 0 9 0;break 9 1 1 1;zones 0 0 0 0 0;good 1 1 1;order 0 77;";
-    private static final int CALLS_AHEAD = 60;
+    /** No object of these tests has had more calls than these ahead of its look. */
+    private static final int CALLS_AHEAD = 100;
 
     private final Check check;
 

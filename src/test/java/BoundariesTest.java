@@ -2,11 +2,12 @@
 public final class BoundariesTest {
     public static void main(String[] args) {
         Check check = new Check();
+        new TermBoundaries(check).run();
         new TextBoundaries(check).run();
         new AnswerBoundaries(check).run();
         new ActBoundaries(check).run();
         new RefusedBoundaries(check).run();
-        check.everyPromiseWasNamed();
+        check.everySentenceWasNamed();
         check.close();
     }
 }

@@ -1,33 +1,31 @@
-import java.io.IOException;
 import java.lang.reflect.Constructor;
 import java.lang.reflect.Field;
 import java.lang.reflect.Method;
 import java.lang.reflect.Modifier;
-import java.nio.file.Files;
-import java.nio.file.Path;
 import java.util.Arrays;
-import java.util.NoSuchElementException;
 import java.util.Set;
 import java.util.TreeSet;
-import java.util.regex.Pattern;
+import java.util.stream.Collectors;
 
-/** The public face as the document has it, and such rules of LANGUAGE.md as can be seen from here. */
+/** The public face as the document has it ('The public face', and the calls of promises 1 to 25). */
 public final class FaceTest {
     private static final Check CHECK = new Check();
-    private static final Set<String> FACE = new TreeSet<>(Set.of(
-        "int feed(int,int,int,int,int)", "boolean end(int)", "int text()", "int fault()", "int now(int)", "int good(int,int)",
-        "int zone(int)", "int rate(int,int)", "int billed(int,int)", "int charge(int,int)", "int cheapest(int)", "int least()",
-        "int split(int,int)", "int bound()", "int gap()", "int parcel(int,int)", "int total(int)", "int would(int,int)",
-        "int put(int,int)", "int by(int,int)", "int take()", "int claim(int,int)", "boolean order(int,int)", "int undo()"));
+    private static final Document DOCUMENT = new Document();
 
-    public static void main(String[] args) throws IOException, NoSuchMethodException {
+    public static void main(String[] args) {
         face();
+        promisesAreTheFace();
         CHECK.due("NONE", ParcelSplit.NONE, -1);
-        Method good = ParcelSplit.class.getMethod("good", int.class, int.class);
-        CHECK.due("good throws", Arrays.equals(good.getExceptionTypes(), new Class<?>[] {NoSuchElementException.class}), true);
-        classesInside();
-        words();
         CHECK.close();
+    }
+
+    /** As the document writes them, without the names of the parameters. */
+    private static Set<String> dueMethods() {
+        Set<String> methods = new TreeSet<>();
+        for (String method : DOCUMENT.faceMethods()) {
+            methods.add(method.replaceAll("\\bint \\w+(?=[,)])", "int").replace(" ", ""));
+        }
+        return methods;
     }
 
     private static void face() {
@@ -35,11 +33,11 @@ public final class FaceTest {
         for (Method m : ParcelSplit.class.getDeclaredMethods()) {
             if (!Modifier.isPrivate(m.getModifiers())) {
                 CHECK.due(m + " is public alone", m.getModifiers(), Modifier.PUBLIC);
-                String parameters = Arrays.toString(m.getParameterTypes()).replaceAll("[\\[\\] ]", "");
-                open.add(m.getReturnType() + " " + m.getName() + "(" + parameters + ")");
+                open.add(m.getReturnType() + m.getName() + "(" + names(m.getParameterTypes()) + ")"
+                    + (m.getExceptionTypes().length > 0 ? "throws" + names(m.getExceptionTypes()) : ""));
             }
         }
-        CHECK.due("the face is " + open, open.equals(FACE), true);
+        CHECK.due("the face", open.toString(), dueMethods().toString());
         for (Field f : ParcelSplit.class.getDeclaredFields()) {
             boolean none = f.getName().equals("NONE");
             CHECK.due(f + " is open", !Modifier.isPrivate(f.getModifiers()), none);
@@ -51,24 +49,17 @@ public final class FaceTest {
         CHECK.due("the class is public and final", ParcelSplit.class.getModifiers(), Modifier.PUBLIC | Modifier.FINAL);
     }
 
-    private static void classesInside() {
-        CHECK.due("at most twelve classes", ParcelSplit.class.getDeclaredClasses().length < 12, true);
-        for (Class<?> inside : ParcelSplit.class.getDeclaredClasses()) {
-            CHECK.due(inside + " is private and static", Modifier.isPrivate(inside.getModifiers())
-                && Modifier.isStatic(inside.getModifiers()), true);
-            for (Method m : inside.getDeclaredMethods()) {
-                CHECK.due(m + " has a name of the face", FACE.stream().anyMatch(f -> f.contains(" " + m.getName() + "(")), false);
-                CHECK.due(m + " has seven parameters at most", m.getParameterCount() <= 7, true);
-            }
-        }
+    private static String names(Class<?>[] types) {
+        return Arrays.stream(types).map(Class::getSimpleName).collect(Collectors.joining(","));
     }
 
-    private static void words() throws IOException {
-        String source = Files.readString(Path.of("src/main/java/ParcelSplit.java"));
-        for (String word : new String[] {"\\btry\\b", "\\bcatch\\b", "\\bfinally\\b", "->", "::", "\\bsynchronized\\b", "\\bassert\\b",
-            "\\bpackage\\b", "Exact\\b", "\\bSystem\\.(out|in|err|nano|current)", "\\bRandom\\b", "\\bnull\\b", "static \\{",
-            "\\bprotected\\b", "[^\\x00-\\x7f]"}) {
-            CHECK.due("the source has " + word, Pattern.compile(word).matcher(source).find(), false);
+    /** Each promise but the first, which is the constructor's, is about one method of the face. */
+    private static void promisesAreTheFace() {
+        Set<String> promised = new TreeSet<>();
+        for (int p = 2; p <= Document.PROMISES; p++) {
+            promised.add(DOCUMENT.call(p));
         }
+        CHECK.due("the promises' calls", promised.toString(), new TreeSet<>(DOCUMENT.faceMethods()).toString());
+        CHECK.due("the first promise's call", DOCUMENT.call(1), "ParcelSplit()");
     }
 }

@@ -1,22 +1,42 @@
+import java.util.ArrayList;
+import java.util.List;
 import java.util.NoSuchElementException;
-import java.util.TreeSet;
 
 /** What the tests share: counting wrong answers, feeding texts, calls that throw. */
 final class Check {
     /** Stands for a NoSuchElementException among answers; no call answers it. */
     static final int THROWS = 1_000_000;
 
-    private final TreeSet<Integer> named = new TreeSet<>();
-    private Document document;
+    /** Of each promise the words that were named, 0 for those of all. */
+    private final List<List<String>> named = new ArrayList<>();
+    private final Document document = new Document();
     private String sentence = "";
     private int wrong;
     private int right;
+
+    Check() {
+        for (int p = 0; p <= Document.PROMISES; p++) {
+            named.add(new ArrayList<>());
+        }
+    }
 
     void due(String what, long got, long want) {
         if (got == want) {
             right++;
             return;
         }
+        tellWrong(what, String.valueOf(got), String.valueOf(want));
+    }
+
+    void due(String what, String got, String want) {
+        if (got.equals(want)) {
+            right++;
+            return;
+        }
+        tellWrong(what, "'" + got + "'", "'" + want + "'");
+    }
+
+    private void tellWrong(String what, String got, String want) {
         wrong++;
         System.out.println(sentence + what + " answered " + got + ", due is " + want);
     }
@@ -27,20 +47,23 @@ final class Check {
 
     /** What comes next is about a sentence of the document, by its promise and its own words. */
     void about(int promise, String words) {
-        if (document == null) {
-            document = new Document();
-        }
-        named.add(promise);
         sentence = "";
-        due("the words '" + words + "' of promise " + promise + " stand in the document", document.says(promise, words), true);
+        boolean says = document.says(promise, words);
+        due("the words '" + words + "' of promise " + promise + " stand in the document", says, true);
+        if (says) {
+            named.get(promise).add(words);
+            named.get(0).add(words);
+        }
         sentence = "promise " + promise + " (" + words + "): ";
     }
 
-    /** Each promise has had a sentence looked at. */
-    void everyPromiseWasNamed() {
+    /** Each sentence of each promise, and of what comes ahead of them, has been looked at. */
+    void everySentenceWasNamed() {
         sentence = "";
+        due("words ahead of promise 1 that no test names", document.unnamedAhead(named.get(0)), "");
         for (int p = 1; p <= Document.PROMISES; p++) {
-            due("promise " + p + " was named", named.contains(p), true);
+            due("promise " + p + " was named", named.get(p).isEmpty(), false);
+            due("words of promise " + p + " that no test of it names", document.unnamed(p, named.get(p)), "");
         }
     }
 

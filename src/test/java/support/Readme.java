@@ -94,13 +94,13 @@ final class Readme {
         try {
             Path folder = Files.createTempDirectory("readme");
             Path file = folder.resolve(CLASS + ".java");
+            // the folder first: what is told last is deleted first
+            folder.toFile().deleteOnExit();
+            file.toFile().deleteOnExit();
+            folder.resolve(CLASS + ".class").toFile().deleteOnExit();
             Files.writeString(file, source);
             compile(file, folder);
-            List<String> answers = answersOf(folder);
-            Files.delete(folder.resolve(CLASS + ".class"));
-            Files.delete(file);
-            Files.delete(folder);
-            return answers;
+            return answersOf(folder);
         } catch (IOException e) {
             throw new UncheckedIOException(e);
         }
